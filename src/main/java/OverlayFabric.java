@@ -24,6 +24,11 @@ public final class OverlayFabric {
     private static final int COUNT_WENT_AS_OLDEST = 12;
 
     private static final int LET_IN = 0;
+    private static final int DROP_NOT_WHOLE = 1;
+    private static final int DROP_WRONG_SUM = 2;
+    private static final int DROP_OTHER_ADDRESS = 3;
+    private static final int DROP_DIVIDED = 4;
+    private static final int DROP_NO_FRAME = 5;
     private static final int DROP_NET_NOT_HERE = 6;
     private static final int DROP_SENDER_UNFIT = 7;
     private static final int DROP_GROUP_AS_SOURCE = 8;
@@ -319,7 +324,10 @@ public final class OverlayFabric {
         if (here == null) {
             return NONE;
         }
-        int why = lookAt(packet, here.number);
+        int why = Wire.faultOf(packet, here.number);
+        if (why == LET_IN) {
+            why = misfitOf(packet, here.number);
+        }
         if (why == LET_IN) {
             why = letIn(packet, here);
         }
@@ -329,11 +337,8 @@ public final class OverlayFabric {
         return why;
     }
 
-    private int lookAt(Row packet, int endpoint) {
-        int why = Wire.faultOf(packet, endpoint);
-        if (why != LET_IN) {
-            return why;
-        }
+    /** The reasons 6 to 8, which hold or not by where stations are now. */
+    private int misfitOf(Row packet, int endpoint) {
         int net = Wire.netOf(packet);
         if (!hasNet(endpoint, net)) {
             return DROP_NET_NOT_HERE;
@@ -423,7 +428,7 @@ public final class OverlayFabric {
         }
 
         int pair(int i) {
-            return (int) number(i, 2);
+            return (at(i) & 255) << 8 | at(i + 1) & 255;
         }
 
         int sum(int from, int to) {
@@ -549,22 +554,22 @@ public final class OverlayFabric {
             return mix;
         }
 
-        /** The reasons 1 to 5, which the packet's own bytes tell; 0 if none of them holds. */
+        /** The reasons 1 to 5, which the packet's own bytes tell. */
         static int faultOf(Row packet, int endpoint) {
             if (packet.used < IP_BYTES || packet.at(0) != IP_START || packet.pair(IP_SIZE_AT) != packet.used) {
-                return 1;
+                return DROP_NOT_WHOLE;
             }
             if (packet.sum(0, IP_BYTES) != 0) {
-                return 2;
+                return DROP_WRONG_SUM;
             }
             if (packet.number(IP_TO_AT, 4) != FIRST_ADDRESS + endpoint) {
-                return 3;
+                return DROP_OTHER_ADDRESS;
             }
             int flags = packet.pair(IP_FLAGS_AT);
             if (flags != IP_UNDIVIDED && flags != 0) {
-                return 4;
+                return DROP_DIVIDED;
             }
-            return carriesFrame(packet) ? 0 : 5;
+            return carriesFrame(packet) ? LET_IN : DROP_NO_FRAME;
         }
 
         private static boolean carriesFrame(Row packet) {

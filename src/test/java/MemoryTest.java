@@ -81,6 +81,10 @@ public final class MemoryTest {
         DUE.eq("knows(0, 0, 4)", x.knows(0, 0, 4), 300);
         DUE.eq("count(12)", x.count(12), 0);
         DUE.eq("count(11)", x.count(11), 7);
+        x.begin(8);
+        x.station(7, 7, 7);
+        x.send(0, 0, 0);
+        DUE.eq("tick(301)", x.tick(301), 1);
     }
 
     private static void forget() {

@@ -5,6 +5,7 @@ public final class SendTest {
     public static void main(String[] args) {
         writtenOutUdp();
         layouts();
+        sumsWithCarries();
         toAll();
         toStation();
         toOtherEndpoint();
@@ -56,6 +57,26 @@ public final class SendTest {
         }
         DUE.eq("deliver(1)", x.deliver(1), 0);
         DUE.frame(x, 1, 0, Packets.frame(0xFEDCBA987654L, Packets.mac(-2), 0xABCD, rest));
+    }
+
+    // The pairs add up to 0x17ffe8, e9 and ff here: what is above 16 bits, added, gives 0xffff, 0x10000 and 0x10016.
+    private static void sumsWithCarries() {
+        int[] lasts = {198, 199, 221};
+        int[] sums = {0x0000, 0xFFFE, 0xFFE8};
+        for (int i = 0; i < lasts.length; i++) {
+            OverlayFabric x = new OverlayFabric();
+            x.station(0, 7, 1);
+            x.station(1, 7, 2);
+            x.way(0, 1, 2);
+            for (int b = 0; b < 38; b++) {
+                x.feed(255);
+            }
+            Packets.feed(x, 240, lasts[i]);
+            DUE.eq("send(0, ALL, 0)", x.send(0, Packets.ALL, 0), 1);
+            DUE.eq("packet(0, 24)", x.packet(0, 24), sums[i] >> 8);
+            DUE.eq("packet(0, 25)", x.packet(0, 25), sums[i] & 255);
+            DUE.eq("deliver(0)", x.deliver(0), 0);
+        }
     }
 
     private static void toAll() {

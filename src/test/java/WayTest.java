@@ -5,6 +5,7 @@ public final class WayTest {
     public static void main(String[] args) {
         wrongOnes();
         eachWayAlone();
+        toEndpointZero();
         DUE.end();
     }
 
@@ -45,5 +46,20 @@ public final class WayTest {
         DUE.yes("way(0, 1, 0)", x.way(0, 1, 0));
         x.send(0, Packets.ALL, 3);
         DUE.packet(x, 6, Packets.udp(3, 0, 1, 7, frame));
+    }
+
+    private static void toEndpointZero() {
+        OverlayFabric x = new OverlayFabric();
+        x.station(3, 7, 1);
+        x.station(0, 7, 2);
+        int[] frame = Packets.frame(Packets.ALL, Packets.mac(1), 3);
+        DUE.yes("way(3, 0, 2)", x.way(3, 0, 2));
+        x.send(0, Packets.ALL, 3);
+        DUE.packet(x, 0, Packets.greWithSum(0, 3, 0, 7, frame));
+        x.begin(4);
+        x.station(3, 7, 1);
+        x.station(0, 7, 2);
+        x.send(0, Packets.ALL, 3);
+        DUE.packet(x, 0, Packets.udp(0, 3, 0, 7, frame));
     }
 }
