@@ -11,6 +11,9 @@ public final class ModelTest {
     private static final int[] EDGES = {-1, 0, 1, 2, 7, 8, 9, 49, 50, 255, 256, 1000, 1001, 65536, 16777216,
         Integer.MIN_VALUE, Integer.MAX_VALUE};
 
+    // Bytes that tell more than others: the flags, what follows, the sender, the heads, a MAC's first byte.
+    private static final int[] LOOKED_AT = {6, 7, 9, 15, 19, 20, 22, 25, 26, 28, 30, 34, 38};
+
     private final Random random;
     private final OverlayFabric x = new OverlayFabric();
     private final Model m = new Model();
@@ -22,9 +25,9 @@ public final class ModelTest {
     private ModelTest(int seed) {
         random = new Random(seed);
         run = "run " + seed + ": ";
-        // Runs differ in how often MACs and nets meet again.
-        macs = seed % 3 == 0 ? 40 : 4;
-        nets = 1 + seed % 3;
+        // Some runs meet the same few MACs again and again, others fill what an endpoint can know.
+        macs = seed % 3 == 0 ? 400 : 4;
+        nets = 1 + seed % 2;
     }
 
     public static void main(String[] args) {
@@ -36,14 +39,13 @@ public final class ModelTest {
 
     private void go() {
         try {
-            if (random.nextInt(3) == 0) {
-                begin(2 + random.nextInt(7));
-            }
-            for (int s = random.nextInt(10) + (macs > 4 ? 20 : 0); s >= 0; s--) {
-                station(random.nextInt(m.endpoints), net(), random.nextInt(macs));
+            begin(macs > 4 ? 2 : 2 + random.nextInt(7));
+            for (int s = macs > 4 ? 31 : random.nextInt(10); s >= 0; s--) {
+                station(macs > 4 && s > 3 ? 0 : random.nextInt(m.endpoints), net(), random.nextInt(macs));
             }
             while (calls < CALLS - 125) {
-                step(random.nextInt(100));
+                int kind = random.nextInt(100);
+                step(macs > 4 && kind > 58 && random.nextInt(4) != 0 ? 20 : kind);
             }
         } catch (RuntimeException thrown) {
             DUE.no(run + thrown, true);
@@ -70,7 +72,7 @@ public final class ModelTest {
         } else if (kind < 64) {
             inject(below(m.endpoints));
         } else if (kind < 66) {
-            tick(random.nextInt(5) == 0 ? edge() : 1 + random.nextInt(150));
+            tick(random.nextInt(9) == 0 ? edge() : 1 + random.nextInt(90));
         } else if (kind == 66 && random.nextInt(4) == 0) {
             begin(random.nextBoolean() ? edge() : 2 + random.nextInt(7));
         } else if (kind == 67) {
@@ -108,7 +110,10 @@ public final class ModelTest {
 
     private long to() {
         int kind = random.nextInt(12);
-        return kind == 0 ? Packets.ALL : kind == 1 ? random.nextLong() : Packets.mac(random.nextInt(macs));
+        if (kind > 1 && !m.hosts.isEmpty()) {
+            return m.hosts.get(random.nextInt(m.hosts.size())).mac;
+        }
+        return kind == 0 ? Packets.ALL : random.nextLong() >>> random.nextInt(20);
     }
 
     private void eq(String call, long got, long want) {
@@ -204,7 +209,9 @@ public final class ModelTest {
         if (m.tape.isEmpty() && !m.flight.isEmpty()) {
             int[] packet = m.flight.get(random.nextInt(m.flight.size())).clone();
             for (int n = random.nextInt(3); n > 0; n--) {
-                packet[random.nextInt(packet.length)] ^= 1 << random.nextInt(8);
+                int any = random.nextInt(packet.length);
+                int k = random.nextBoolean() ? any : LOOKED_AT[random.nextInt(LOOKED_AT.length)];
+                packet[k] ^= random.nextBoolean() ? 1 : 1 << random.nextInt(8);
             }
             for (int b : Packets.sealIp(packet)) {
                 feed(b);
@@ -233,7 +240,8 @@ public final class ModelTest {
         if (in(endpoint, m.endpoints) && in(k, m.memories.get(endpoint).size()) && in(what, 5)) {
             List<Map.Entry<List<Long>, Model.Place>> all = new ArrayList<>(m.memories.get(endpoint).entrySet());
             Model.Place place = all.get(k).getValue();
-            long[] told = {all.get(k).getKey().get(0), all.get(k).getKey().get(1), place.endpoint, place.host, place.age};
+            List<Long> key = all.get(k).getKey();
+            long[] told = {key.get(0), key.get(1), place.endpoint, place.host, place.age};
             want = told[what];
         }
         eq("knows(" + endpoint + ", " + k + ", " + what + ")", x.knows(endpoint, k, what), want);

@@ -37,7 +37,8 @@ public final class StationTest {
 
     private static void macs() {
         int[] fours = {0, 1, -1, Integer.MIN_VALUE, Integer.MAX_VALUE, 0x01020304};
-        long[] macs = {0x020000000000L, 0x020000000001L, 0x0200FFFFFFFFL, 0x020080000000L, 0x02007FFFFFFFL, 0x020001020304L};
+        long[] macs = {0x020000000000L, 0x020000000001L, 0x0200FFFFFFFFL,
+            0x020080000000L, 0x02007FFFFFFFL, 0x020001020304L};
         for (int i = 0; i < fours.length; i++) {
             OverlayFabric x = new OverlayFabric();
             x.station(0, 16777215, fours[i]);
