@@ -53,7 +53,10 @@ public final class OverlayFabric {
         }
         endpointsInUse = endpoints;
         for (int e = 0; e < MOST_ENDPOINTS; e++) {
-            this.endpoints[e].reset();
+            Endpoint one = this.endpoints[e];
+            if (one != null) {
+                one.reset();
+            }
         }
         stations.clear();
         flight.clear();
@@ -191,7 +194,8 @@ public final class OverlayFabric {
         }
         int gone = 0;
         for (int e = 0; e < endpointsInUse; e++) {
-            gone += endpoints[e].growOlder(ticks);
+            Endpoint here = endpointAt(e);
+            gone += here == null ? 0 : here.growOlder(ticks);
         }
         return gone;
     }

@@ -1,13 +1,33 @@
+import java.util.List;
+
 /** Compares answers with those that are due, and ends a test with exit code 1 if one was wrong. */
 final class Due {
     private int asked;
     private int wrong;
+    private String sentence = "";
+
+    /** The document's sentence that the answers from here on stand for; told with each wrong one. */
+    void says(String sentence) {
+        this.sentence = "\"" + sentence + "\": ";
+    }
 
     void eq(String call, long got, long want) {
         asked++;
         if (got != want) {
             wrong++;
-            System.out.println(call + " answered " + got + ", due is " + want);
+            System.out.println(sentence + call + " answered " + got + ", due is " + want);
+        }
+    }
+
+    /** Two lists of readings, row by row. */
+    void same(String behind, List<String> got, List<String> want) {
+        eq(behind + ": how many readings", got.size(), want.size());
+        for (int i = 0; i < Math.min(got.size(), want.size()); i++) {
+            asked++;
+            if (!got.get(i).equals(want.get(i))) {
+                wrong++;
+                System.out.println(sentence + behind + " left " + got.get(i) + ", due is " + want.get(i));
+            }
         }
     }
 

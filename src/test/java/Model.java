@@ -150,7 +150,7 @@ final class Model {
         if (p.length < 20 || p[0] != 69 || number(p, 2, 2) != p.length) {
             return 1;
         }
-        if (!Arrays.equals(p, Packets.sealIp(p))) {
+        if (Packets.sum(p, 0, 20) != 0) {
             return 2;
         }
         if (number(p, 16, 4) != Packets.ADDRESS + here) {
@@ -205,7 +205,7 @@ final class Model {
         if (number(p, 20, 2) == 8192) {
             return 28;
         }
-        return number(p, 20, 2) == 40960 && p.length >= 46 && Arrays.equals(p, Packets.sealGre(p)) ? 32 : -1;
+        return number(p, 20, 2) == 40960 && p.length >= 46 && Packets.sum(p, 20, p.length) == 0 ? 32 : -1;
     }
 
     int tick(int ticks) {

@@ -88,14 +88,18 @@ final class Packets {
     }
 
     private static int[] seal(int[] packet, int from, int to, int place) {
-        int[] sealed = with(packet, place, 0, place + 1, 0);
+        int[] open = with(packet, place, 0, place + 1, 0);
+        int sum = sum(open, from, to);
+        return with(open, place, sum / 256, place + 1, sum % 256);
+    }
+
+    static int sum(int[] packet, int from, int to) {
         long sum = 0;
         for (int i = from; i < to; i++) {
-            sum += (i - from) % 2 == 0 ? 256L * sealed[i] : sealed[i];
+            sum += (i - from) % 2 == 0 ? 256L * packet[i] : packet[i];
         }
-        // One's complement addition is addition modulo 65535, with 65535 itself for what is not 0.
-        long folded = sum == 0 ? 0 : (sum - 1) % 65535 + 1;
-        return with(sealed, place, (int) ((65535 - folded) / 256), place + 1, (int) ((65535 - folded) % 256));
+        // Addition with what is above 16 bits added again is addition modulo 65535, with 65535 for what is not 0.
+        return (int) (65535 - (sum == 0 ? 0 : (sum - 1) % 65535 + 1));
     }
 
     private static long mix(int[] frame) {
