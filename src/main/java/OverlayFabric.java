@@ -212,10 +212,8 @@ public final class OverlayFabric {
 
     public long knows(int endpoint, int k, int what) {
         Endpoint here = endpointAt(endpoint);
-        if (here == null || k < 0 || k >= here.memory.size()) {
-            return NONE;
-        }
-        return here.memory.get(k).tell(what);
+        Known one = here == null ? null : here.knownAt(k);
+        return one == null ? NONE : one.tell(what);
     }
 
     public int got(int station) {
@@ -262,7 +260,8 @@ public final class OverlayFabric {
 
     private boolean hasNet(int endpoint, int net) {
         for (int s = 0; s < stations.size(); s++) {
-            if (stations.get(s).isThere(endpoint, net)) {
+            Station one = stationAt(s);
+            if (one != null && one.isThere(endpoint, net)) {
                 return true;
             }
         }
@@ -271,15 +270,16 @@ public final class OverlayFabric {
 
     private void learn(Endpoint here, Known news) {
         int k = here.find(news.net, news.mac);
-        if (k != NONE && here.memory.get(k).isAtPlaceOf(news)) {
-            here.memory.get(k).age = 0;
+        Known before = here.knownAt(k);
+        if (before != null && before.isAtPlaceOf(news)) {
+            before.age = 0;
             return;
         }
         // What is learnt anew frees its own room, so that no other has to go for it.
-        if (k != NONE) {
-            here.memory.remove(k);
+        if (before != null) {
+            here.drop(k);
         } else if (here.isFull()) {
-            here.dropOldest();
+            here.drop(here.oldest());
             tally(COUNT_WENT_AS_OLDEST);
         }
         here.memory.add(news);
@@ -288,8 +288,9 @@ public final class OverlayFabric {
 
     private void comeToAll(Row frame, int endpoint, int net, int butStation) {
         for (int s = 0; s < stations.size(); s++) {
-            if (s != butStation && stations.get(s).isThere(endpoint, net)) {
-                stations.get(s).take(frame);
+            Station one = stationAt(s);
+            if (one != null && s != butStation && one.isThere(endpoint, net)) {
+                one.take(frame);
             }
         }
     }
@@ -723,9 +724,14 @@ public final class OverlayFabric {
             return memory.size() >= MOST_KNOWN;
         }
 
+        Known knownAt(int k) {
+            return k < 0 || k >= memory.size() ? null : memory.get(k);
+        }
+
         int find(int net, long mac) {
             for (int k = 0; k < memory.size(); k++) {
-                if (memory.get(k).net == net && memory.get(k).mac == mac) {
+                Known one = knownAt(k);
+                if (one != null && one.net == net && one.mac == mac) {
                     return k;
                 }
             }
@@ -734,28 +740,37 @@ public final class OverlayFabric {
 
         /** Null if the MAC is meant for all of the net, or not known. */
         Known whereIs(int net, long mac) {
-            int k = Wire.isGroup(mac) ? NONE : find(net, mac);
-            return k == NONE ? null : memory.get(k);
+            return Wire.isGroup(mac) ? null : knownAt(find(net, mac));
         }
 
-        void dropOldest() {
-            int oldest = NONE;
+        /** Of the same age the one learnt first; NONE if nothing is known. */
+        int oldest() {
+            int found = NONE;
+            int age = NONE;
             for (int k = 0; k < memory.size(); k++) {
-                if (oldest == NONE || memory.get(k).age > memory.get(oldest).age) {
-                    oldest = k;
+                Known one = knownAt(k);
+                if (one != null && one.age > age) {
+                    found = k;
+                    age = one.age;
                 }
             }
-            if (oldest != NONE) {
-                memory.remove(oldest);
+            return found;
+        }
+
+        void drop(int k) {
+            if (k >= 0 && k < memory.size()) {
+                memory.remove(k);
             }
         }
 
         int growOlder(int ticks) {
             int before = memory.size();
             for (int k = before - 1; k >= 0; k--) {
-                memory.get(k).age += ticks;
-                if (memory.get(k).age > OLDEST_AGE) {
-                    memory.remove(k);
+                Known one = knownAt(k);
+                if (one != null && one.age + ticks > OLDEST_AGE) {
+                    drop(k);
+                } else if (one != null) {
+                    one.age += ticks;
                 }
             }
             return before - memory.size();
